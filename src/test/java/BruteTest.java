@@ -609,7 +609,7 @@ public final class BruteTest {
     }
 
     public static void main(String[] args) {
-        int seeds = args.length > 0 ? Integer.parseInt(args[0]) : 300;
+        int seeds = args.length > 0 ? Integer.parseInt(args[0]) : 120;
         for (int seed = 0; seed < seeds; seed++) {
             new BruteTest(seed).run();
         }
