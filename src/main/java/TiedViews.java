@@ -143,7 +143,6 @@ public final class TiedViews {
         }
         agreement.learnLines();
         dropping.forget();
-        hearsay.forget();
         choices.learnBars();
         return told.eyeCount;
     }
@@ -1405,10 +1404,6 @@ public final class TiedViews {
         Hearsay(Told told) {
             this.told = told;
             Arrays.fill(takesBy, NO_RULE);
-        }
-
-        void forget() {
-            known = false;
         }
 
         boolean isFull() {

@@ -385,6 +385,12 @@ public final class PromisesTest {
         due("the one that is forced", x.fewest(), 2);
         read(x, "tie 0 1 1 by 1 and 0;");
         due("a tie more", x.fewest(), 3);
+        x = told(7, "eye view 3;eye mod 3;eye held 3;eye view 3;eye view 3;eye view 3;eye view 3;eye view 3;");
+        for (int i = 0; i < 8; i++) {
+            reading(x, i, i % 7, 6 - i % 7, 1);
+        }
+        due("24 free columns", x.fewest(), 0);
+        due("fill", x.fill(23), 1);
         asksOnLines();
         promise = 18;
         x = told(5, MIXED);
@@ -579,6 +585,33 @@ public final class PromisesTest {
         due("round", x.settles(1), 3);
         due("from now on", x.settles(0), 0);
         longWalks();
+        edgeOf300();
+    }
+
+    /** A ring of five eyes comes again behind 5 times 20 ticks, eye 5 behind 3, so all behind 300. */
+    private static void edgeOf300() {
+        String id = "1 0,0 1";
+        TiedViews x = told(5, "eye view 2;eye view 2;eye view 2;eye view 2;eye view 2;eye view 2;eye view 2;"
+            + "tie 0 1 2 by " + id + " and " + id + ";tie 1 2 2 by " + id + " and " + id + ";tie 2 3 2 by " + id + " and "
+            + id + ";tie 3 4 2 by " + id + " and " + id + ";tie 4 0 2 by 2 1,0 2 and " + id + ";tie 5 6 2 by 0 1,4 4 and "
+            + id + ";");
+        for (int i = 0; i < 5; i++) {
+            x.hear((i + 1) % 5, i, i);
+        }
+        x.hear(5, 5, 5);
+        x.now(0, 1, 1);
+        due("the ring", x.settles(1), 100);
+        x.now(5, 0, 1);
+        due("within 300", x.settles(0), 0);
+        due("300 later", x.settles(1), 300);
+        x.hear(6, 5, 5);
+        due("not within 300", x.settles(0), NONE);
+        due("not within 300", x.settles(1), NONE);
+        x.tick(1);
+        due("within 300", x.settles(0), 0);
+        due("300 later", x.settles(1), 300);
+        read(x, "eye view 1;");
+        due("an eye more", x.settles(1), 300);
     }
 
     /** The companion table of x^3 - 6x^2 - 6x - 4 (or a like one) by rests of 7 may go 342 ticks, of 5 124. */
@@ -652,6 +685,10 @@ public final class PromisesTest {
         promise = 24;
         due("empty before", x.choose(0, 2), 0);
         promise = 26;
+        TiedViews z = told(2, "eye choice 2;eye choice 3;eye choice 3;bar 0 0 1 2;bar 0 0 2 2;bar 1 0 2 0;bar 1 0 2 1;"
+            + "bar 1 1 2 0;bar 1 1 2 1;");
+        due("ways", z.fills(-1), 5);
+        due("the least value leads nowhere", z.fills(0) * 100 + z.fills(1) * 10 + z.fills(2), 102);
         due("without choices", told(2, "eye view 1;").fills(-1), 1);
         due("65536", told(2, "eye choice 4;eye choice 4;eye choice 4;eye choice 4;eye choice 4;eye choice 4;"
             + "eye choice 4;eye choice 4;").fills(-1), 65536);
