@@ -373,6 +373,15 @@ public final class EdgesOfAgreementTest {
         Edges.asks(Edges::full, "fewest() of 8 that fit", 0, x -> x.fewest());
     }
 
+    private static void fewestOf24() {
+        Edges.sentence(16, "24 FREE COLUMNS, all read: 0");
+        TiedViews x = free24();
+        for (int i = 0; i < 8; i++) {
+            Edges.reads(x, i, 6 - i % 7, i % 7, 1);
+            Edges.due("fewest() of " + (i + 1), x.fewest(), 0);
+        }
+    }
+
     private static void fewestOfAll() {
         Edges.sentence(16, "all 8 READINGS to drop: 255");
         TiedViews x = Edges.told(2, Edges.times(8, "eye view 1;"), "tie 0 1 1 by 1 and 0;tie 2 1 1 by 1 and 0;"
@@ -408,6 +417,20 @@ public final class EdgesOfAgreementTest {
         Edges.due("3 alone, not 0, 1 and 2", x.fewest(), 8);
         Edges.reads(x, 2, 2);
         Edges.due("0 and 1, not 2 and 3", x.fewest(), 3);
+        Edges.sentence(16, "EYES that hold a number several times over");
+        x = Edges.told(7, "eye view 1;eye view 1;eye view 1;tie 0 2 1 by 1 and 2;tie 1 2 1 by 1 and 3;");
+        Edges.reads(x, 0, 4);
+        Edges.reads(x, 1, 6);
+        Edges.due("twice 2 and three times 2", x.fewest(), 0);
+        Edges.reads(x, 0, 5);
+        Edges.due("not twice 2", x.fewest(), 1);
+        Edges.sentence(16, "what is told, read or unread counts at once");
+        x.unread(1);
+        Edges.due("one reading", x.fewest(), 0);
+        Edges.read(x, "tie 0 1 1 by 1 and 0;");
+        Edges.due("a tie more", x.fewest(), 1);
+        Edges.reads(x, 0, 0);
+        Edges.due("another reading", x.fewest(), 0);
         Edges.sentence(16, "an EYE with one number that does not FIT is dropped whole");
         x = Edges.told(7, "eye view 3;eye view 3;tie 0 1 1 by 0 0 1 and 0 0 0;");
         Edges.reads(x, 0, 1, 1, 0);
@@ -502,6 +525,7 @@ public final class EdgesOfAgreementTest {
         Edges.due("line 29 alone", x.met(0, 0, 29), 1);
         Edges.due("not line 28", x.met(0, 0, 28), 0);
         x.set(0, 0, 1);
+        Edges.due("line 0 is not met", x.met(0, 0, -1), 0);
         Edges.due("line 0 and 29", x.met(0, 0, 0), 1);
         Edges.due("not line 29", x.met(0, 0, 29), 0);
         x.set(0, 0, 0);
@@ -567,6 +591,14 @@ public final class EdgesOfAgreementTest {
         Edges.asks(EdgesOfAgreementTest::pinned30, "cost of one told once", 3, x -> x.cost(7));
         Edges.asks(EdgesOfAgreementTest::noughts30, "cost of noughts", 0, x -> x.cost(9));
         Edges.asks(EdgesOfAgreementTest::unfit, "cost where readings do not fit", 1, x -> x.cost(0));
+        Edges.sentence(18, "it is asked between FILLS, and changes none");
+        TiedViews y = Edges.busy();
+        for (int t = 0; t < 3; t++) {
+            int before = y.fill(4) * 10 + y.fill(-1);
+            y.cost(t);
+            Edges.due("fill behind cost(" + t + ")", y.fill(4) * 10 + y.fill(-1), before);
+            Edges.due("fixed behind cost(" + t + ")", y.fixed(4), 5);
+        }
         Edges.sentence(18, "the only TIE");
         TiedViews x = Edges.told(2, PAIR, "tie 0 1 2 by 1,1 and 1,0;");
         Edges.due("cost(0)", x.cost(0), 2);
@@ -588,6 +620,7 @@ public final class EdgesOfAgreementTest {
         fixedNumbers();
         fixedColumns();
         fewestOfNone();
+        fewestOf24();
         fewestOfAll();
         fewestOfSeveral();
         metNumbers();

@@ -119,6 +119,7 @@ public final class EdgesOfChoicesTest {
         for (int i = 0; i < 8; i++) {
             Edges.due("set " + i, x.eye(i, 5), 2);
         }
+        narrowRoundAndRound();
         Edges.sentence(25, "barred in either order of the bar");
         for (String bar : new String[] {"bar 0 1 1 0;bar 0 1 1 1;", "bar 1 0 0 1;bar 1 1 0 1;", "bar 0 1 1 0;bar 1 1 0 1;"}) {
             x = Edges.told(2, "eye choice 2;eye choice 2;", bar);
@@ -139,6 +140,23 @@ public final class EdgesOfChoicesTest {
         x.drop(0);
         x.narrow();
         Edges.due("status", x.status(), 1);
+    }
+
+    /** From CHOICE 7 down to 0 the values 0 go one by one, then the values 1: each is seen by CHOICES only a round later. */
+    private static void narrowRoundAndRound() {
+        StringBuilder text = new StringBuilder("bar 7 1 0 1;bar 7 1 0 2;");
+        for (int i = 0; i < 7; i++) {
+            text.append("bar ").append(i).append(" 0 ").append(i + 1).append(" 1;");
+            text.append("bar ").append(i).append(" 0 ").append(i + 1).append(" 2;");
+            text.append("bar ").append(i).append(" 1 ").append(i + 1).append(" 2;");
+        }
+        TiedViews x = Edges.told(2, Edges.times(8, "eye choice 3;"), text.toString());
+        Edges.due("nothing goes yet", x.narrow(), 0);
+        x.choose(7, 6);
+        Edges.due("15 values, in 14 rounds", x.narrow(), 15);
+        for (int i = 0; i < 8; i++) {
+            Edges.due("set " + i, x.eye(i, 5), 4);
+        }
     }
 
     // ---- promise 26: fills
@@ -204,6 +222,22 @@ public final class EdgesOfChoicesTest {
         x.choose(2, 1);
         Edges.due("with one empty", x.fills(-1), 0);
         Edges.due("the first with one empty", x.fills(1), NONE);
+        for (int empty = 0; empty < 3; empty++) {
+            for (String bar : new String[] {"bar 0 0 1 0;", "bar 1 0 2 0;", "bar 0 0 2 0;"}) {
+                x = Edges.told(2, "eye choice 2;eye choice 2;eye choice 2;", bar);
+                // The two that are barred choose that, so that all go; then but one is left without values.
+                x.choose(bar.charAt(4) - '0', 1);
+                x.choose(bar.charAt(8) - '0', 1);
+                Edges.due("all go by " + bar, x.narrow(), 4);
+                for (int i = 0; i < 3; i++) {
+                    if (i != empty) {
+                        Edges.due("choose", x.choose(i, 2), 0);
+                    }
+                }
+                Edges.due("ways, " + empty + " empty, by " + bar, x.fills(-1), 0);
+                Edges.due("the first, " + empty + " empty, by " + bar, x.fills((empty + 1) % 3), NONE);
+            }
+        }
     }
 
     private static void fillsFirst() {
@@ -218,6 +252,12 @@ public final class EdgesOfChoicesTest {
         Edges.due("the last of 0", x.fills(0) * 10 + x.fills(2), 30);
         x.choose(2, 8);
         Edges.due("the last of both", x.fills(0) * 10 + x.fills(2), 33);
+        Edges.sentence(26, "THE FIRST, where the least values lead nowhere only later");
+        // Value 0 of CHOICE 0 leaves values to both of the others, but none that go together.
+        x = Edges.told(2, "eye choice 2;eye choice 3;eye choice 3;bar 0 0 1 2;bar 0 0 2 2;bar 1 0 2 0;bar 1 0 2 1;"
+            + "bar 1 1 2 0;bar 1 1 2 1;");
+        Edges.due("ways", x.fills(-1), 5);
+        Edges.due("the first", x.fills(0) * 100 + x.fills(1) * 10 + x.fills(2), 102);
         Edges.sentence(26, "the earlier CHOICE goes ahead of the later");
         x = Edges.told(2, "eye choice 2;eye choice 3;bar 0 0 1 0;bar 0 0 1 1;");
         Edges.due("0 with 2, not 1 with 0", x.fills(0) * 10 + x.fills(1), 2);

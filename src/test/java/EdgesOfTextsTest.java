@@ -288,6 +288,26 @@ public final class EdgesOfTextsTest {
         }
     }
 
+    /** Other letters at one place alone, from the first to the last, make another NAME. */
+    private static void wordsByLetters() {
+        Edges.sentence(7, "a word is that word to the letter");
+        String[][] texts = {{"eye", " view 1;"}, {"eye ", "view", " 1;"}, {"eye ", "mod", " 1;"}, {"eye ", "held", " 1;"},
+            {"eye ", "choice", " 1;"}, {"tie", " 0 1 1 by 1 and 1 1;"}, {"tie 0 1 1 ", "by", " 1 and 1 1;"},
+            {"tie 0 1 1 by 1 ", "and", " 1 1;"}, {"bar", " 2 0 3 0;"}};
+        for (String[] t : texts) {
+            String ahead = t.length == 3 ? t[0] : "";
+            String word = t[t.length - 2];
+            String behind = t[t.length - 1];
+            Edges.fine(EdgesOfTextsTest::five, ahead + word + behind, t[0].startsWith("eye") ? 6 : 5);
+            for (int i = 0; i < word.length(); i++) {
+                String other = word.substring(0, i) + "q" + word.substring(i + 1);
+                Edges.faulty(EdgesOfTextsTest::five, ahead + other + behind, ahead.length(), 1);
+            }
+            Edges.faulty(EdgesOfTextsTest::five, ahead + word.substring(1) + behind, ahead.length(), 1);
+            Edges.faulty(EdgesOfTextsTest::five, ahead + word + "s" + behind, ahead.length(), 1);
+        }
+    }
+
     private static void howManyNumbers() {
         for (String sort : new String[] {"view", "mod", "held"}) {
             Edges.sentence(7, "how many numbers it has (1 to 3), '" + sort + "'");
@@ -621,6 +641,7 @@ public final class EdgesOfTextsTest {
         signs();
         gaps();
         sorts();
+        wordsByLetters();
         howManyNumbers();
         endsOfEyeSentences();
         wordsThatCannotStand();
