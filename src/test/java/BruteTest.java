@@ -590,7 +590,8 @@ public final class BruteTest {
     }
 
     private void run() {
-        for (int round = 0; round < 3; round++) {
+        // No more rounds than these: no object may be used for more than 512 calls.
+        for (int round = 0; round < 2; round++) {
             tell();
             for (int i = 0; i < 2; i++) {
                 changeReadings();
@@ -609,7 +610,7 @@ public final class BruteTest {
     }
 
     public static void main(String[] args) {
-        int seeds = args.length > 0 ? Integer.parseInt(args[0]) : 120;
+        int seeds = args.length > 0 ? Integer.parseInt(args[0]) : 180;
         for (int seed = 0; seed < seeds; seed++) {
             new BruteTest(seed).run();
         }

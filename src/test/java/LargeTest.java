@@ -11,7 +11,8 @@ public final class LargeTest {
 
     private final Random random;
     private final int p;
-    private final TiedViews x;
+    private TiedViews x;
+    private final List<String> texts = new ArrayList<>();
     private final int[] size = new int[8];
     private final int[] column = new int[9];
     private final List<int[]> lines = new ArrayList<>();
@@ -35,10 +36,16 @@ public final class LargeTest {
     }
 
     private void say(String text) {
-        for (int i = 0; i < text.length(); i++) {
-            x.feed(text.charAt(i), 1);
+        texts.add(text);
+        due("read '" + text + "'", Edges.read(x, text), x.count(1));
+    }
+
+    /** What has been told, told to a new object, since none may be used for more than 512 calls. */
+    private void renew() {
+        x = new TiedViews(p);
+        for (String text : texts) {
+            Edges.read(x, text);
         }
-        due("read '" + text + "'", x.read(), x.count(1));
     }
 
     private void tell(int rank) {
@@ -141,6 +148,7 @@ public final class LargeTest {
         int k = 0;
         for (int c = 0; c < column[8]; c++) {
             if (leader[c] < 0) {
+                renew();
                 for (int d = 0; d < column[8]; d++) {
                     int want = leader[d] >= 0 ? (p - m[leader[d]][c]) % p : c == d ? 1 : 0;
                     due("basis " + k + " " + d, x.basis(k, d), want);
@@ -229,13 +237,20 @@ public final class LargeTest {
         }
     }
 
+    /** Anything at free columns, and at the others what they must be then. */
     private int[] agreeing() {
+        int[][] m = copied(-1, 0, 0);
+        int[] leader = steps(m, column[8]);
         int[] row = new int[column[8]];
-        for (int k = 0; k < x.all(0); k++) {
-            int times = random.nextInt(p);
-            for (int c = 0; c < column[8]; c++) {
-                row[c] = (row[c] + times * x.basis(k, c)) % p;
+        for (int c = 0; c < column[8]; c++) {
+            row[c] = leader[c] < 0 ? random.nextInt(p) : 0;
+        }
+        for (int c = 0; c < column[8]; c++) {
+            int sum = 0;
+            for (int d = 0; d < column[8] && leader[c] >= 0; d++) {
+                sum += leader[d] < 0 ? m[leader[c]][d] * row[d] : 0;
             }
+            row[c] = leader[c] < 0 ? row[c] : Math.floorMod(-sum, p);
         }
         return row;
     }
@@ -316,6 +331,9 @@ public final class LargeTest {
             t.tell(1 + seed % 7);
             t.checkBasis();
             for (int i = 0; i < 4; i++) {
+                if (i % 2 == 0) {
+                    t.renew();
+                }
                 t.takeReadings(i == 0 ? 1 : 20 * i);
                 t.checkReadings();
                 t.checkAsks(i % 2 * 2);

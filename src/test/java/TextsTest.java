@@ -230,12 +230,6 @@ public final class TextsTest {
         return s.toString();
     }
 
-    private static void feed(TiedViews x, String text) {
-        for (int i = 0; i < text.length(); i++) {
-            x.feed(text.charAt(i), 1);
-        }
-    }
-
     public static void main(String[] args) {
         for (int seed = 0; seed < 3000; seed++) {
             Random random = new Random(seed);
@@ -245,7 +239,7 @@ public final class TextsTest {
             int latest = 0;
             for (int i = 0; i < 10; i++) {
                 String text = model.text(random);
-                feed(x, text);
+                Edges.feed(x, text);
                 String name = "seed " + seed + " '" + text + "'";
                 due("read " + name, x.read(), model.read(text));
                 latest = model.fault == 0 ? latest : model.fault;
